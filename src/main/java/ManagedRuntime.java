@@ -328,8 +328,8 @@ public final class ManagedRuntime {
     }
 
     private boolean stackFits(int op) {
-        int left = depthOf[latest] - takes(op);
-        return left >= 0 && left + puts(op) <= STACK_PLACES;
+        int depth = depthOf[latest];
+        return depth >= takes(op) && (depth < STACK_PLACES || !leavesMore(op));
     }
 
     private static int takes(int op) {
@@ -358,27 +358,18 @@ public final class ManagedRuntime {
         }
     }
 
-    // RETURN puts its value on another stack, which has room: CALL took two from it.
-    private static int puts(int op) {
+    // No RETURN fills a stack above its bound: CALL took two values from it before.
+    private static boolean leavesMore(int op) {
         switch (op) {
             case OP_PUSH:
             case OP_EMPTY:
             case OP_LOAD:
-            case OP_ADD:
-            case OP_SUB:
-            case OP_MUL:
-            case OP_LESS:
-            case OP_SAME:
-            case OP_NEW:
-            case OP_GET:
-            case OP_IS:
-            case OP_TAKE:
-                return 1;
             case OP_DUP:
-            case OP_SWAP:
-                return 2;
+            case OP_NEW:
+            case OP_TAKE:
+                return true;
             default:
-                return 0;
+                return false;
         }
     }
 

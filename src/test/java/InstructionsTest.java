@@ -101,21 +101,25 @@ public final class InstructionsTest {
         }
         due.is("field 0 of the other", x.sort(3, 12), 0);
         due.is("field 2 of the other", x.sort(3, 14), 0);
-        placesAreMadeEmpty(due);
+        for (int level = 0; level < 3; level++) {
+            for (int n = 0; n < 3; n++) {
+                placesAreMadeEmpty(due, level, n);
+            }
+        }
     }
 
-    // 40 objects, each with its fields filled and then dropped: each must start with empty fields.
-    private static void placesAreMadeEmpty(Due due) {
-        for (int level = 0; level < 3; level++) {
-            ManagedRuntime x = Program.of(Op.NEW, 1, Op.DUP, 0, Op.GET, 1, Op.EMPTY, 0, Op.SAME, 0, Op.OUT, 0,
-                Op.PUSH, 4, Op.PUT, 1, Op.JUMP, 0);
-            x.level(level);
-            due.is("run", x.run(0, 0), ManagedRuntime.TIRED);
-            due.is("objects", x.made(), 34);
-            due.is("outputs", x.printed(), 33);
-            for (int k = 0; k < 20; k++) {
-                due.is("object " + k + " had an empty field", x.output(k), 1);
-            }
+    // Objects whose field is filled and which are then dropped: each must start with the field empty.
+    private static void placesAreMadeEmpty(Due due, int level, int field) {
+        ManagedRuntime x = Program.of(Op.NEW, 1, Op.DUP, 0, Op.GET, field, Op.EMPTY, 0, Op.SAME, 0, Op.OUT, 0,
+            Op.PUSH, 4, Op.PUT, field, Op.JUMP, 0);
+        x.level(level);
+        // 34 objects are made in a run, so the second run finds every place used before.
+        x.run(0, 0);
+        due.is("run", x.run(0, 0), ManagedRuntime.TIRED);
+        due.is("objects", x.made(), 34);
+        due.is("outputs", x.printed(), 33);
+        for (int k = 0; k < 20; k++) {
+            due.is("object " + k + " had an empty field " + field, x.output(k), 1);
         }
     }
 

@@ -15,6 +15,7 @@ public final class Promise04MethodTest {
         }
         everySlotIsItsOwn(due);
         firstClassUpwards(due);
+        startsAtTheEdges(due);
         due.end();
     }
 
@@ -62,7 +63,13 @@ public final class Promise04MethodTest {
         x.above(1, -1);
         x.method(1, 2, -1);
         due.is("the way up is cut", call(x, 3, 2), ManagedRuntime.MISSING);
-        startsAtTheEdges(due);
+        x.above(3, 2);
+        x.above(2, 1);
+        x.above(1, 0);
+        x.method(2, 2, -1);
+        call(x, 3, 2);
+        due.is("three steps up", x.given(), 0);
+        due.is("it was a value", x.givenSort(), 1);
     }
 
     private static void startsAtTheEdges(Due due) {

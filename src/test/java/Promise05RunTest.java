@@ -97,6 +97,7 @@ public final class Promise05RunTest {
             x.code(6, op, operand(op));
             boolean grows = op == Op.PUSH || op == Op.EMPTY || op == Op.LOAD || op == Op.DUP || op == Op.NEW || op == Op.TAKE;
             due.is("op " + op + " on a full stack", x.run(0, 0) == ManagedRuntime.STACK ? 1 : 0, grows ? 1 : 0);
+            due.yes("it did not work", !grows || x.steps() == 6);
             x.code(6, Op.STOP, 0);
             due.is("six values fit", x.run(0, 0), ManagedRuntime.ENDED);
         }

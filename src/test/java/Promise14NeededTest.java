@@ -6,6 +6,9 @@ public final class Promise14NeededTest {
         framesGo(due);
         for (int level = 0; level < 3; level++) {
             everyPlaceKeeps(due, level);
+            for (int n = 0; n < 4; n++) {
+                everyLocalKeeps(due, level, n);
+            }
             framesKeep(due, level);
             goneFramesKeepNothing(due, level);
         }
@@ -48,6 +51,20 @@ public final class Promise14NeededTest {
         due.is("its field's", x.number(3, 13), 1);
         due.is("the stack's", x.number(0, 3), 3);
         due.is("its field's", x.number(0, 14), 2);
+    }
+
+    // The object in the local must outlast 20 others: its class and field tell.
+    private static void everyLocalKeeps(Due due, int level, int n) {
+        ManagedRuntime x = Program.of(Op.NEW, 3, Op.DUP, 0, Op.PUSH, 6, Op.PUT, 0, Op.STORE, n);
+        for (int i = 5; i < 45; i += 4) {
+            Program.put(x, i, Op.NEW, 0, Op.NEW, 0, Op.POP, 0, Op.POP, 0);
+        }
+        Program.put(x, 45, Op.LOAD, n, Op.GIVE, n);
+        x.level(level);
+        due.is("run", x.run(0, 0), ManagedRuntime.ENDED);
+        due.is("class of the object in local " + n, x.number(n, 3), 3);
+        due.is("its field", x.number(n, 12), 6);
+        due.is("needed", x.needed(), 1);
     }
 
     // Ten frames, each of which has in local 2 an object and on its stack one more: the 17th must fail.
